@@ -1016,50 +1016,37 @@ public final class HatGoesRound {
             }
         }
 
+        /** Reads what stands at a level of binding, and writes it with every operator behind what it joins. */
         private void readPart(int level, int open) {
-            if (level >= ONE_LEVEL) {
-                readOne(open);
-                return;
-            }
-            if (level == NOT_LEVEL && token == NOT) {
+            if ((level == NOT_LEVEL && token == NOT) || (level == ONE_LEVEL && token == MINUS)) {
+                int operator = token == NOT ? NOT : NEGATE;
                 if (opens(open)) {
-                    readPart(NOT_LEVEL, open + 1);
-                    write(NOT);
+                    readPart(level, open + 1);
+                    write(operator);
                 }
-                return;
-            }
-            readPart(level + 1, open);
-            int most = level == NOT_LEVEL ? 1 : TAPE_SIZE;
-            for (int i = 0; i < most && levelOf(token) == level; i++) {
-                int operator = token;
-                step();
+            } else if (level < ONE_LEVEL) {
                 readPart(level + 1, open);
-                write(operator);
-            }
-        }
-
-        private void readOne(int open) {
-            if (token == NUMBER) {
-                write(number);
-                step();
-            } else if (token <= PRIDE && token >= MORE) {
-                write(token);
-                step();
-            } else if (token == MINUS) {
-                if (opens(open)) {
-                    readPart(ONE_LEVEL, open + 1);
-                    write(NEGATE);
+                int most = level == NOT_LEVEL ? 1 : TAPE_SIZE;
+                for (int i = 0; i < most && levelOf(token) == level; i++) {
+                    int operator = token;
+                    step();
+                    readPart(level + 1, open);
+                    write(operator);
                 }
             } else if (token == OPEN) {
                 if (opens(open)) {
                     readPart(OR_LEVEL, open + 1);
                     must(CLOSE);
                 }
+            } else if (token == NUMBER || (token <= PRIDE && token >= MORE)) {
+                write(token == NUMBER ? number : token);
+                step();
             } else {
                 refuse();
             }
         }
 
+        /** Whether one more of those that stay open may stand here, with so many open; then it is read. */
         private boolean opens(int open) {
             if (open >= MOST_OPEN) {
                 refuse();
@@ -1148,7 +1135,7 @@ public final class HatGoesRound {
         private int stepOverNumber() {
             number = 0;
             while (place < size && isDigit(bytes[place])) {
-                // what is too long is refused, so it need not be told
+                // one that is too long may wrap: it is refused
                 number = number * 10 + bytes[place] - '0';
                 place++;
             }
