@@ -166,7 +166,9 @@ public final class PromiseTests {
         due("feed(6)", x.feed(6, 0, 0, 0, 0, 0), -2);
         due("feed(MIN)", x.feed(MIN, 0, 0, 0, 0, 0), -2);
         due("count(5)", x.count(5), 8);
-        feed(x, "sounds 2;costs 3;");
+        x.feed(2, 's', 'o', 'x', 'x', 'x');
+        x.feed(4, 'u', 'n', 'd', 's', 'x');
+        feed(x, " 2;costs 3;");
         due("text() of all bytes in their order", x.text(), 1);
         for (int i = 0; i < 31; i++) {
             x.feed(5, 255, 255, 255, 255, 255);
@@ -210,6 +212,15 @@ public final class PromiseTests {
         }
         due("160 bytes without the last ;", text(z, full + ";sounds 1;costs 123"), -260);
         due("a TEXT of 160 bytes", text(z, full + ";sounds 1;costs 12;"), 1);
+        due("another", text(z, full + ";sounds 3;costs 45;"), 2);
+        z.person(0, 0);
+        int sum = (full.length() - "takes ".length() + 1) / 2;
+        for (int t = 1; t <= 2; t++) {
+            z.force(t);
+            due("its takes", z.asks(0, 0, 0), sum);
+            due("its sounds", z.asks(1, 0, 0), t == 1 ? 1 : 3);
+            due("its costs", z.asks(2, 0, 0), t == 1 ? 12 : 45);
+        }
     }
 
     private static void valuesOfTexts() {
@@ -265,6 +276,9 @@ public final class PromiseTests {
         due("not behind -", fault("-not 2;"), -107);
         due("a KEY as a NAME", fault("takes;"), -106);
         due("an unknown WORD", fault("prides;"), -106);
+        due("an unknown WORD", fault("bride;"), -106);
+        due("an unknown WORD", fault("pridez;"), -106);
+        due("an unknown WORD", fault("apride;"), -106);
         due("a WORD as long as can be", fault("notpride;"), -106);
         due("a NUMBER and a NAME", fault("1pride;"), -107);
         due("a NAME and a NUMBER", fault("pride1;"), -111);
@@ -422,6 +436,23 @@ public final class PromiseTests {
         due("that of least WORTH, the first", y.told(0, 6), 2);
         y.fill(2, 1, 0);
         due("that of least WORTH IN THE HAT", y.told(0, 6), 5);
+        y.fill(0, 1, 1);
+        y.fill(0, 0, 9);
+        y.put(0, 0, 9);
+        due("SORT 0, of most WORTH", y.told(0, 6), 0);
+        takesOfNone();
+    }
+
+    private static void takesOfNone() {
+        HatGoesRound x = fullPew();
+        text(x, "takes 7+worth*8;sounds 1;costs 1;");
+        x.force(1);
+        int[] takes = {7, 1, 17, 3, 27, 99};
+        for (int p = 0; p < 6; p++) {
+            due("told(" + p + ", 5): WORTH of none is 0", x.told(p, 5), takes[p]);
+        }
+        x.pass();
+        due("told(3, 5)", x.told(3, 5), 1);
     }
 
     private static void coin() {
@@ -475,6 +506,7 @@ public final class PromiseTests {
         y.pass();
         due("COSTS told ahead", y.told(0, 0), 29);
         due("LOUD stays", y.told(0, 2), 6);
+        due("LOUD stays, in thought", y.run(1, 30), 6);
     }
 
     private static void passAtTheBounds() {
@@ -573,6 +605,7 @@ public final class PromiseTests {
         due("first(0, 2)", x.first(0, 2), -7);
         due("first(0, -1)", x.first(0, -1), -7);
         due("in thought", x.count(6), 0);
+        due("of six", fullPew().first(5, 1) > 0 ? 1 : 0, 1);
         HatGoesRound empty = new HatGoesRound();
         empty.person(0, 0);
         empty.person(0, 0);
@@ -630,6 +663,11 @@ public final class PromiseTests {
         // all who take 1 reach it, if 0 is last
         due("seating(0) of three", three.seating(0), 231);
         due("seating(1) of three", three.seating(1), 0);
+        three.fill(0, 1, 0);
+        three.put(0, 1, 9999);
+        due("9999", three.seating(1), 9999);
+        due("9999", three.seating(0), 123);
+        seatingOfMoreRounds();
         HatGoesRound six = new HatGoesRound();
         for (int p = 0; p < 6; p++) {
             six.person(0, 9);
@@ -655,6 +693,41 @@ public final class PromiseTests {
         }
         due("the last of all orders", other.seating(0), 654321);
         due("the last of all orders", other.seating(1), 0);
+    }
+
+    /** Each order of four CHILDREN made the only one by which all have the same, of coins of WORTH 6, 5, .. 1. */
+    private static void seatingOfMoreRounds() {
+        for (int many = 0; many < 24; many++) {
+            HatGoesRound x = new HatGoesRound();
+            int[] order = {0, 1, 2, 3};
+            for (int i = 0, rest = many, way = 6; i < 3; way /= 3 - i, i++) {
+                int k = i + rest / way;
+                rest %= way;
+                int one = order[k];
+                System.arraycopy(order, i, order, i + 1, k - i);
+                order[i] = one;
+            }
+            // by that order they take 6 and 2, 5 and 1, 4, 3
+            int[] sums = {8, 6, 4, 3};
+            int digits = 0;
+            for (int i = 0; i < 4; i++) {
+                digits = digits * 10 + order[i] + 1;
+            }
+            for (int p = 0; p < 4; p++) {
+                x.person(50, 0);
+            }
+            for (int i = 0; i < 4; i++) {
+                x.put(order[i], 1, 23 - sums[i]);
+            }
+            for (int w = 0; w < 6; w++) {
+                x.fill(w, 0, w + 1);
+                x.fill(w, 1, 1);
+            }
+            due("seating(0) of four, " + digits, x.seating(0), digits);
+            due("seating(1) of four, " + digits, x.seating(1), 0);
+            x.put(order[3], 1, 23 - sums[3] + 1);
+            due("by how much", x.seating(1), 1);
+        }
     }
 
     private static void ways() {
@@ -708,6 +781,10 @@ public final class PromiseTests {
         due("share(-1, 0)", x.share(-1, 0), NO);
         due("share(0, 2)", x.share(0, 2), NO);
         due("share(0, -1)", x.share(0, -1), NO);
+        HatGoesRound six = fullPew();
+        six.put(5, 1, 1260);
+        due("share(5, 0) of six", six.share(5, 0), 1);
+        due("share(5, 1) of six", six.share(5, 1), 2);
         HatGoesRound empty = new HatGoesRound();
         empty.person(0, 0);
         due("that is 0", empty.share(0, 0), NO);
@@ -957,6 +1034,8 @@ public final class PromiseTests {
         due("odds(99990, 40, 0, 0)", x.odds(99990, 40, 0, 0), odd / common);
         due("odds(99990, 40, 0, 1)", x.odds(99990, 40, 0, 1), 40 / common);
         due("in thought", x.count(1), 20);
+        due("odds(0, 1, 1, 0)", x.odds(0, 1, 1, 0) + x.odds(0, 1, 0, 0), 1);
+        due("odds(99999, 1, 1, 1)", x.odds(99999, 1, 1, 1), 1);
         due("odds(100000, ..)", x.odds(100000, 1, 0, 0), NO);
         due("odds(-1, ..)", x.odds(-1, 1, 0, 0), NO);
         due("odds(.., 0, ..)", x.odds(0, 0, 0, 0), NO);
@@ -1139,6 +1218,8 @@ public final class PromiseTests {
         x.sheet(1, 1, 12);
         due("others are left out", x.pewBy(1, 1, 0, 6), 2);
         due("count(0)", x.count(0), 6);
+        x.sheet(3, 2, 2);
+        due("of ints", x.pewBy(3, 2, 0, 1), 0);
         due("pewBy(0, 1, ..)", x.pewBy(0, 1, -1, 1), -13);
         due("pewBy(2, ..)", x.pewBy(2, 1, -1, 1), -11);
         due("pewBy(2, .., 7)", x.pewBy(2, 1, -1, 7), -2);
