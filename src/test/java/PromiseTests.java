@@ -205,6 +205,10 @@ public final class PromiseTests {
         due("asks(0)", y.asks(0, 0, 0), 4);
         due("asks(1)", y.asks(1, 0, 0), 5);
         due("asks(2)", y.asks(2, 0, 0), 6);
+        text(y, "1111111111111111111111111");
+        due("what was on THE TAPE is gone", text(y, "takes 11"), -108);
+        text(y, "aaaaaaaaaaaaaaaaaaaaaaaaa");
+        due("what was on THE TAPE is gone", text(y, "takes pride"), -111);
         HatGoesRound z = new HatGoesRound();
         StringBuilder full = new StringBuilder("takes 1");
         while (full.length() < 160 - 20) {
@@ -668,6 +672,13 @@ public final class PromiseTests {
         due("9999", three.seating(1), 9999);
         due("9999", three.seating(0), 123);
         seatingOfMoreRounds();
+        HatGoesRound full = fullPew();
+        for (int w = 0; w < 6; w++) {
+            full.fill(w, 0, 1);
+        }
+        full.put(5, 1, 3);
+        due("seating(1) of six, 20 of 120 coins each", full.seating(1), 3);
+        due("seating(0) of six, 20 of 120 coins each", full.seating(0), 123456);
         HatGoesRound six = new HatGoesRound();
         for (int p = 0; p < 6; p++) {
             six.person(0, 9);
