@@ -226,9 +226,19 @@ final class PromiseSentences extends Checks {
         due(x, "count 5", 0);
         due(x, "count 3", 2);
         due("nothing is left of it", text(x, "takes 1;"), -108);
+        due("letters", text(x, "a".repeat(160)), -100);
+        due("none of them is left", text(x, "takes pride"), -111);
+        due("digits", text(x, "1".repeat(160)), -100);
+        due("none of them is left", text(x, "takes 1"), -107);
+        due("blanks", text(x, " ".repeat(160)), -260);
+        due("none of them is left", text(x, "takes"), -105);
         due("a FAULT at once", text(x, "!takes 1;sounds 2;costs 3;"), -100);
         due(x, "count 5", 0);
         due("a TEXT", text(x, "takes 4;sounds 5;costs 6;"), 2);
+        does(x, "person 0 0, force 2");
+        due(x, "asks 0 0 0", 4);
+        due(x, "asks 1 0 0", 5);
+        due(x, "asks 2 0 0", 6);
 
         of(6, "is a TEXT: its number;");
         x = made("person 0 0");
@@ -240,6 +250,18 @@ final class PromiseSentences extends Checks {
             due("text " + t, call(x, "asks 0 0 0"), 10 + t);
             due("text " + t, call(x, "asks 1 0 0"), 20 + t);
             due("text " + t, call(x, "asks 2 0 0"), 30 + t);
+        }
+
+        x = made("person 0 0");
+        for (int t = 1; t <= 5; t++) {
+            due("a long text " + t, text(x, "takes 1" + "+1".repeat(10 * t) + ";sounds 1" + t + ";costs 1" + "+1".repeat(60 - 10 * t) + ";"), t);
+            due("a FAULT behind it", text(x, "takes 1" + "+1".repeat(70) + ";"), t < 5 ? -248 : -4);
+        }
+        for (int t = 1; t <= 5; t++) {
+            does(x, "force " + t);
+            due("text " + t, call(x, "asks 0 0 0"), 10 * t + 1);
+            due("text " + t, call(x, "asks 1 0 0"), 10 + t);
+            due("text " + t, call(x, "asks 2 0 0"), 61 - 10 * t);
         }
 
         of(6, "-100 less the place of its FAULT.");
@@ -427,6 +449,14 @@ final class PromiseSentences extends Checks {
         due(x, "count 1", 4);
         due(x, "told 0 0", 8);
 
+        // all of PEOPLE, all SORTS, as they are, THE LAW too
+        x = law(made("person 0 1, person 0 1, person 0 1, person 0 1, person 0 1, person 49 50"), "more", "worth", "more-coins");
+        does(x, fills(0, 5, 6, 7, 8, 9, 45), hat(1, 1, 1, 1, 1, 1), "hand 5");
+        // she takes 45 by MORE 9, 45 more; it costs twice 9 - 6, less 9
+        due("PURSE of the last", call(x, "run 1 15"), 45);
+        due("PRIDE of the last", call(x, "run 1 25"), 53);
+        due("WORTH of the others", call(x, "run 1 1"), 35);
+
         of(15, "how many coins are IN THE HAT then (what 0),");
         // 1 takes 32, 8, 2; 0 takes 16, 4, 1
         x = made("person 0 31, person 0 99", "hand 1", hat(1, 1, 1, 1, 1, 1));
@@ -589,6 +619,8 @@ final class PromiseSentences extends Checks {
         due(x, "told 1 1", 9959);
         x = made(SIX);
         dues(x, 0, "first 0 1, first 5 1");
+        x = made("person 0 0", FULL_HAT, worths(1, 1, 1, 1, 1, 1));
+        due("of 120 coins", call(x, "first 0 1"), 120);
 
         of(18, "The first SORT (of which fewer than 20 are IN THE HAT)");
         for (int w = 0; w < 6; w++) {
@@ -616,6 +648,13 @@ final class PromiseSentences extends Checks {
                 }
             }
             due(x, "count 1", 7);
+        }
+        for (int people = 1; people <= 6; people++) {
+            x = pew(people);
+            does(x, FULL_HAT, "fill 4 1 19");
+            for (int p = 0; p < people; p++) {
+                due("of 120 coins", call(x, "vicar " + p + " 0"), 119 % people == p ? 4 : -1);
+            }
         }
         x = pew(4);
         does(x, "hand 3", "fill 2 1 6");
@@ -710,6 +749,9 @@ final class PromiseSentences extends Checks {
         due("9999 at most", call(x, "seating 1"), 9998);
         does(x, "put 1 1 9999");
         due(x, "seating 1", 0);
+        does(x, "put 1 1 9998, fill 0 1 1");
+        due("1 by the first order, 0 by the other", call(x, "seating 1"), 0);
+        due("1 by the first order, 0 by the other", call(x, "seating 0"), 21);
     }
 
     /** Each order of four CHILDREN made the only one by which all have the same, of coins of WORTH 6, 5, .. 1. */
@@ -959,6 +1001,11 @@ final class PromiseSentences extends Checks {
             due("SORT " + w, call(x, "hats 0 " + w + " 1"), w == 5 ? 8 : 1);
         }
 
+        x = law(made("person 0 0", hat(1, 1, 1, 1, 0, 0)), "coins", "0", "0");
+        tells(x, 4);
+        due("coins are more by them: TAKES 8 of 3 and 5", call(x, "hats 0 0 1"), 5);
+        due("coins are more by them: TAKES 8 .. 23", call(x, "hats 0 0 0"), 16);
+
         of(25, "how many such (what 0), the least (1; -1: none).");
         x = made("person 50 0", hat(2, 0, 0, 0, 0, 7));
         int[][] rounds = {{}, {1}, {6}, {6, 6, 6}, {2}, times(20, 6), times(20, 6, 1), times(20, 6, 6)};
@@ -1117,7 +1164,11 @@ final class PromiseSentences extends Checks {
             due(x, "drawn 7 1 1", people - 1);
             does(x, "fill 0 1 2");
             due("two that are in the hat", call(x, "drawn 7 0 1"), 0);
+            does(x, FULL_HAT, "hand 0");
+            due("of 120 coins", call(x, "drawn 7 30 1"), 119 % people);
         }
+        x = made("person 0 0", FULL_HAT, worths(1, 1, 1, 1, 1, 1));
+        due("of 120 coins", call(x, "drawn 7 30 0"), 120);
         due(made("fill 0 1 4"), "drawn 7 5 1", -1);
 
         odds();
@@ -1175,6 +1226,10 @@ final class PromiseSentences extends Checks {
             does(x, "hand " + (people - 1));
             for (int p = 0; p < people; p++) {
                 due("one of " + people, call(x, "odds 5 20 " + p + " 0"), p == (people - 1 + 9) % people ? 1 : 0);
+            }
+            does(x, FULL_HAT, "hand 0");
+            for (int p = 0; p < people; p++) {
+                due("one of " + people + ", of 120 coins", call(x, "odds 5 2 " + p + " 0"), p == 119 % people ? 1 : 0);
             }
         }
 
@@ -1290,6 +1345,17 @@ final class PromiseSentences extends Checks {
             dues(x, -13, "pewBy 1 " + (sort + 1) % 3 + " 0 0", "pewBy 1 " + (sort + 2) % 3 + " 0 0");
         }
         dues(x, -11, "judge 0, judge 2, judge 3");
+        for (int sort = 0; sort <= 2; sort++) {
+            x = made("sheet 1 " + sort + " 40");
+            for (int i = 0; i < 40; i++) {
+                does(x, "cell 1 " + i + " 7");
+            }
+            does(x, "sheet 1 " + sort + " 40, image");
+            for (int i = 0; i < 40; i += 2) {
+                due(x, "pewBy 1 " + sort + " " + i + " 1", 1);
+                dues(x, 0, "told 0 0, told 0 4, back");
+            }
+        }
 
         of(33, "or missing (sort -1: n does not matter): 1.");
         for (String n : new String[] {"0", "-1", "40", "41", "MIN", "MAX"}) {

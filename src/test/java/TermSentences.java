@@ -168,6 +168,8 @@ final class TermSentences extends Checks {
             due("told 0 5 of " + takes[i], call(one(19, takes[i], 0, 0), "told 0 5"), quarters[i]);
         }
 
+        due("told 0 5 of the bound", call(law(made("person 19 0"), "9999", "0", "0"), "told 0 5"), 24);
+
         of(12, "SOUNDS MORE more.");
         due("MORE 0, silent", call(one(10, 0, 0, 0), "coin 0 0 0"), 0);
         due("MORE 0, at the bound", call(one(10, 0, 99, 0), "coin 0 0 0"), 99);
@@ -181,8 +183,12 @@ final class TermSentences extends Checks {
         due("MORE 1", call(one(21, 10, 0, 0), "told 0 5"), 15);
         due("MORE 9", call(one(29, 0, 0, 0), "told 0 5"), 45);
         due("MORE 9, at the bound of the text", call(one(29, 99, 0, 0), "told 0 5"), 144);
+        due("MORE 1, beyond the bound of the text", call(law(made("person 21 0"), "9999", "0", "0"), "told 0 5"), 104);
+        due("MORE 1, beyond the bound of the text", call(law(made("person 21 0"), "-9999", "0", "0"), "told 0 5"), 5);
 
         of(12, "COSTS twice.");
+        due("beyond the bound of the text", call(law(made("person 20 0"), "0", "0", "9999"), "coin 0 0 1"), 1198);
+        due("beyond the bound of the text", call(law(made("person 20 0"), "0", "0", "-9999"), "coin 0 0 1"), 802);
         int[] costs = {-99, -98, -1, 0, 1, 98, 99};
         for (int c : costs) {
             due("COSTS of " + c, call(one(29, 0, 0, c), "coin 0 0 1"), 1000 + 2 * c);
@@ -273,6 +279,10 @@ final class TermSentences extends Checks {
         feed(x, " ".repeat(134) + "takes 1;sounds 2;costs 345;".substring(0, 26));
         due(x, "count 5", 160);
         due("the last byte is missing", call(x, "text"), -260);
+        due("a WORD at the very end", text(x, " ".repeat(155) + "takes"), -260);
+        due("a NUMBER at the very end", text(x, "takes" + " ".repeat(151) + "1234"), -260);
+        due("a longer NUMBER at the very end", text(x, "takes" + " ".repeat(150) + "12345"), -255);
+        due("a longer WORD at the very end", text(x, " ".repeat(154) + "takess"), -254);
 
         of(6, "TOKENS, each as long as can be:");
         faulty("notpride", 0);
@@ -587,6 +597,15 @@ final class TermSentences extends Checks {
             due(word, text(nothing(), word + " 1;"), -100);
         }
 
+        for (String word : WORDS) {
+            for (int i = 0; i < word.length(); i++) {
+                char other = word.charAt(i) == 'z' ? 'a' : (char) (word.charAt(i) + 1);
+                String changed = word.substring(0, i) + other + word.substring(i + 1);
+                due(changed, text(nothing(), changed), -100);
+                faulty("1+" + changed, 2);
+            }
+        }
+
         of(6, "a NUMBER that is too long,");
         faulty("1+12345", 2);
         faulty("1 12345", 2);
@@ -699,6 +718,11 @@ final class TermSentences extends Checks {
         boundsOfTheLaw();
 
         of(11, "of one of PEOPLE and a SORT (of takes none):");
+        for (int kind = 0; kind < 6; kind++) {
+            int[] ofNone = {40, 10, 55, 10, 55, 99};
+            HatGoesRound one = law(made("person 50 0, person " + kind + "3 0, fill 0 0 50, fill 0 1 2, pass"), "40+worth", "0", "0");
+            due("takes of KIND " + kind, call(one, "told 1 5"), ofNone[kind]);
+        }
         x = law(made("person 0 10, person 9 20, fill 3 1 1"), "7+worth*50+(pride=20)+more", "pride+worth", "pride-worth");
         due(x, "told 0 5", 7);
         due(x, "told 1 5", 17);
