@@ -94,6 +94,12 @@ final class Observed extends Checks {
         return one.size() == other.size() ? "" : "the number of answers";
     }
 
+    /** Due: of an object made so all is as of another that was made otherwise. */
+    static void dueAlike(Supplier<HatGoesRound> one, Supplier<HatGoesRound> other, String what) {
+        String difference = difference(of(one.get()), of(other.get()));
+        due(what + ": " + difference, difference.isEmpty() ? 0 : 1, 0);
+    }
+
     /** Due: these calls, whatever they answer, change nothing that can be asked of an object made so. */
     static void dueAsItWas(Supplier<HatGoesRound> state, List<String> calls) {
         List<String> before = of(state.get());

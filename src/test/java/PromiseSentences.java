@@ -303,6 +303,15 @@ final class PromiseSentences extends Checks {
             due(x, "asks 2 " + p + " -1", -pride);
         }
 
+        x = law(made(SIX), "50+more", "60+more", "70+more");
+        for (int p = 0; p < 6; p++) {
+            for (int w = -1; w < 6; w++) {
+                due("whatever KIND", call(x, "asks 0 " + p + " " + w), 50 + p);
+                due("whatever KIND", call(x, "asks 1 " + p + " " + w), 60 + p);
+                due("whatever KIND", call(x, "asks 2 " + p + " " + w), 70 + p);
+            }
+        }
+
         of(8, "It takes those of the call for any part.");
         x = law(made("person 0 10, person 5 70, fill 5 0 88, fill 4 0 0"), "worth", "worth", "worth");
         dues(x, 88, "asks 0 0 5, asks 1 0 5, asks 2 0 5, asks 0 1 5");
@@ -1508,7 +1517,8 @@ final class PromiseSentences extends Checks {
         dues(x, -2, "pewBy 0 1 0 -1, pewBy 0 1 0 7, pewBy 0 1 0 MIN, pewBy 0 1 0 MAX");
         due(x, "count 0", 0);
         does(x, "sheet 0 1 0");
-        due("none of an empty row", call(x, "pewBy 0 1 0 0"), 0);
+        // no place is looked at
+        dues(x, 0, "pewBy 0 1 0 0, pewBy 0 1 1 0, pewBy 0 1 -1 0, pewBy 0 1 MIN 0, pewBy 0 1 MAX 0");
 
         of(36, "how many came (others are left out).");
         x = row(made("person 0 0"), 0, 2, 60, 0, -1, 0, 0, 100, 0, -1, 33, 44);

@@ -449,6 +449,48 @@ final class RefusalSentences extends Checks {
 
     // ---- what is asked
 
+    /** What a call changes is made as it was by another: then all is as it was. */
+    private static void whatIsToldChangesNoMore() {
+        String sentence = "What is asked changes nothing, but where it is told.";
+        alsoOf(3, sentence, "a fill changes that number, no more");
+        Observed.dueAsItWas(RefusalSentences::rich, Arrays.asList("fill 0 0 99", "fill 0 0 1", "fill 2 0 0", "fill 2 0 7"));
+        long many = call(rich(), "hat 0 1");
+        Observed.dueAsItWas(RefusalSentences::rich, Arrays.asList("fill 0 1 20", "fill 0 1 0", "fill 0 1 " + many));
+        alsoOf(7, sentence, "THE LAW is another, no more");
+        Observed.dueAsItWas(RefusalSentences::rich, Arrays.asList("force 0", "force 1"));
+        alsoOf(10, sentence, "a put changes that number, no more");
+        long pride = call(rich(), "told 0 0");
+        Observed.dueAsItWas(RefusalSentences::rich, Arrays.asList("put 0 0 99", "put 0 0 0", "put 0 0 " + pride, "put 2 1 9999", "put 2 1 0",
+            "put 2 1 " + call(rich(), "told 2 1")));
+        alsoOf(14, sentence, "TURN is another, no more");
+        Observed.dueAsItWas(RefusalSentences::rich, Arrays.asList("hand 0", "hand 3", "hand 1", "hand " + call(rich(), "count 6")));
+        alsoOf(34, sentence, "a cell changes that number, no more");
+        Observed.dueAsItWas(RefusalSentences::rich, Arrays.asList("cell 1 0 99", "cell 1 0 11", "cell 1 7 0", "cell 1 7 18", "cell 2 1 9", "cell 2 1 22"));
+        alsoOf(35, sentence, "a copy changes the other SHEET, no more");
+        Observed.dueAsItWas(RefusalSentences::rich, Arrays.asList("copy 1 0 1 7 1", "cell 1 7 18", "copy 1 0 1 1 7", "copy 1 1 1 0 7", "cell 1 7 18"));
+        Supplier<HatGoesRound> kept = () -> does(rich(), "image");
+        alsoOf(9, sentence, "one comes, no more");
+        Observed.dueAsItWas(kept, Arrays.asList("person 59 99", "back"));
+        alsoOf(13, sentence, "a TURN changes what it tells, no more");
+        Observed.dueAsItWas(kept, Arrays.asList("pass", "pass", "back"));
+        alsoOf(36, sentence, "some come, no more");
+        Observed.dueAsItWas(kept, Arrays.asList("pewBy 1 1 0 3", "back"));
+        alsoOf(6, sentence, "by a FAULT THE TAPE is empty, no more");
+        Observed.dueAlike(() -> doesAny(rich(), "text"), () -> doesAny(rich(), "feed 5 40 41 42 43 44", "text"), "a feed, a FAULT");
+        alsoOf(5, sentence, "bytes come, no more");
+        Observed.dueAlike(() -> doesAny(rich(), "feed 5 110 100 115 32 49", "feed 5 59 0 0 0 0", "text"),
+            () -> doesAny(rich(), "feed 2 110 100 0 0 0", "feed 3 115 32 49 0 0", "feed 5 59 0 0 0 0", "text"), "by two and three");
+        alsoOf(32, sentence, "an image that is back changes no more");
+        Observed.dueAsItWas(kept, Arrays.asList("back", "back"));
+    }
+
+    private static HatGoesRound doesAny(HatGoesRound x, String... calls) {
+        for (String words : calls) {
+            call(x, words);
+        }
+        return x;
+    }
+
     private static void askedChangesNothing() {
         String[][] asked = {
             {"2", "count 0", "count 1", "count 2", "count 3", "count 4", "count 5", "count 6"},
@@ -490,5 +532,6 @@ final class RefusalSentences extends Checks {
         Observed.dueAsItWas(RefusalSentences::rich, Arrays.asList("film 3 30", "film 3 2", "sheet 3 -1 0", "film 0 6"));
         alsoOf(31, "What is asked changes nothing, but where it is told.", "an image changes the image, no more");
         Observed.dueAsItWas(() -> does(rich(), "image"), Arrays.asList("image", "image"));
+        whatIsToldChangesNoMore();
     }
 }

@@ -486,6 +486,15 @@ final class TermSentences extends Checks {
         dueValue("(1 or 1) and 0", 0);
         dueValue("(not 0)+(not 0)", 2);
         dueValue("((5))", 5);
+        // as many wait for what is behind them as can be
+        StringBuilder all = new StringBuilder("0 or 1 and 1<1+1*");
+        for (int open = 1; open <= 5; open++) {
+            all.append("(0 or 1 and 1<1+1*");
+        }
+        dueValue(all + "1)))))", 1);
+        dueValue(all + "0)))))", 0);
+        dueValue(all + "2)))))", 1);
+        dueValue(all + "0))))) or 5", 1);
         faulty("", 0);
         faulty("()", 1);
         faulty("-", 1);
@@ -529,6 +538,8 @@ final class TermSentences extends Checks {
         dueValue("9999*9999*43-4172*1000-700", 47);
         dueValue(least + "<1", 1);
         dueValue("1<" + least, 0);
+        dueValue(least + "=0", 0);
+        dueValue("0=" + least, 0);
         dueValue("not " + least, 0);
         dueValue(least + " and " + least, 1);
 
