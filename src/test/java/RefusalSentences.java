@@ -85,7 +85,7 @@ final class RefusalSentences extends Checks {
         RefusalTable feedFive = table(5, "feed", sentence, BAD, FULL).number("5 | 1: 6");
         RefusalTable feedTwo = table(5, "feed", sentence, BAD, FULL).number("2 3 4 5 | 1: 0 6");
         for (int i = 0; i < 5; i++) {
-            feed.number("0 255 | 1: -1 256".substring(i % 2 * 2));
+            feed.number(i == 0 ? "0 255 | 1: -1 256" + FAR : "255 | 1: -1 256");
             feedFive.number("7 | 1: 256" + (i == 2 ? FAR : ""));
             feedTwo.number("7 | 1: -1");
         }
@@ -320,7 +320,7 @@ final class RefusalSentences extends Checks {
     private static void pews() {
         String sentence = "BAD: SHEET, sort, n; -11; -13; -12: what stood ahead came.";
         RefusalTable table = table(36, "pewBy", sentence, BAD, -11, -13, -12);
-        // of these places the first two that would be looked at are outside already, but for 0
+        // from each of these places but 0 the first pair is outside already, so that nobody comes ahead of the refusal
         for (String s : SOME_SHEETS) {
             for (String sort : new String[] {"MIN", "-1", "0", "1", "2", "3", "MAX"}) {
                 for (String from : new String[] {"MIN", "-2", "-1", "0", "31", "40", "MAX"}) {
@@ -328,12 +328,9 @@ final class RefusalSentences extends Checks {
                         int refusals = refusalsOfSheet(number(s));
                         boolean badSort = number(sort) < 0 || number(sort) > 2;
                         refusals |= badSort || number(n) < 0 || number(n) > 6 ? 1 : 0;
-                        refusals |= (refusals & 3) == 0 && !s.equals(sort) ? 4 : 0;
+                        refusals |= refusalsOfSheet(number(s)) == 0 && !badSort && !s.equals(sort) ? 4 : 0;
                         refusals |= !from.equals("0") && !n.equals("0") ? 8 : 0;
-                        // from place 0 on 6 of 31 numbers come, of 6 or 8 some ahead of the refusal
-                        if (refusals != 0) {
-                            table.add(refusals, "pewBy " + s + " " + sort + " " + from + " " + n);
-                        }
+                        table.add(refusals, "pewBy " + s + " " + sort + " " + from + " " + n);
                     }
                 }
             }
