@@ -983,7 +983,7 @@ public final class HatGoesRound {
             step();
             for (int part = 0; part < PARTS && part < intoEnds.length; part++) {
                 must(TAKES - part);
-                readPart(OR_LEVEL, 0);
+                readPart(this, OR_LEVEL, 0);
                 must(SEMICOLON);
                 intoEnds[part] = written;
             }
@@ -1016,33 +1016,36 @@ public final class HatGoesRound {
             }
         }
 
-        /** Reads what stands at a level of binding, and writes it with every operator behind what it joins. */
-        private void readPart(int level, int open) {
-            if ((level == NOT_LEVEL && token == NOT) || (level == ONE_LEVEL && token == MINUS)) {
-                int operator = token == NOT ? NOT : NEGATE;
-                if (opens(open)) {
-                    readPart(level, open + 1);
-                    write(operator);
+        /**
+         * Reads what stands at a level of binding, and writes it with every operator behind what it joins.
+         * It is static because LANGUAGE.md lets only a static method call itself.
+         */
+        private static void readPart(Tape tape, int level, int open) {
+            int first = tape.token;
+            if ((level == NOT_LEVEL && first == NOT) || (level == ONE_LEVEL && first == MINUS)) {
+                if (tape.opens(open)) {
+                    readPart(tape, level, open + 1);
+                    tape.write(first == NOT ? NOT : NEGATE);
                 }
             } else if (level < ONE_LEVEL) {
-                readPart(level + 1, open);
+                readPart(tape, level + 1, open);
                 int most = level == NOT_LEVEL ? 1 : TAPE_SIZE;
-                for (int i = 0; i < most && levelOf(token) == level; i++) {
-                    int operator = token;
-                    step();
-                    readPart(level + 1, open);
-                    write(operator);
+                for (int i = 0; i < most && levelOf(tape.token) == level; i++) {
+                    int operator = tape.token;
+                    tape.step();
+                    readPart(tape, level + 1, open);
+                    tape.write(operator);
                 }
-            } else if (token == OPEN) {
-                if (opens(open)) {
-                    readPart(OR_LEVEL, open + 1);
-                    must(CLOSE);
+            } else if (first == OPEN) {
+                if (tape.opens(open)) {
+                    readPart(tape, OR_LEVEL, open + 1);
+                    tape.must(CLOSE);
                 }
-            } else if (token == NUMBER || (token <= PRIDE && token >= MORE)) {
-                write(token == NUMBER ? number : token);
-                step();
+            } else if (first == NUMBER || (first <= PRIDE && first >= MORE)) {
+                tape.write(first == NUMBER ? tape.number : first);
+                tape.step();
             } else {
-                refuse();
+                tape.refuse();
             }
         }
 

@@ -5,6 +5,9 @@ import java.lang.reflect.Modifier;
 import java.nio.file.Files;
 import java.nio.file.Path;
 import java.util.Arrays;
+import java.util.HashMap;
+import java.util.HashSet;
+import java.util.Map;
 import java.util.Set;
 import java.util.TreeSet;
 import java.util.regex.Matcher;
@@ -26,6 +29,7 @@ public final class FaceTests {
         "\\b(throw|try|catch|synchronized|assert|import|package|protected|float|double)\\b", "->", "::",
         "\\b(equals|hashCode|toString|\\w*Exact|Random|Thread)\\b", "\\bSystem\\.(?!arraycopy)",
     };
+    private static final int MOST_DEEP = 8;
     private static int wrong = 0;
 
     private static void must(boolean so, String what) {
@@ -92,19 +96,69 @@ public final class FaceTests {
             Matcher m = Pattern.compile(out).matcher(code);
             must(!m.find(), "nothing like " + out + " in the source");
         }
-        int lines = 0;
-        boolean inMethod = false;
-        for (String line : code.split("\n")) {
-            if (line.matches(" {4}( {4})?(?!.*\\bclass\\b)\\w.*\\{")) {
-                inMethod = true;
-                lines = 0;
-            }
-            lines++;
-            must(!inMethod || lines <= 60, "a method stays short: " + line);
-            if (line.matches(" {4}( {4})?\\}")) {
-                inMethod = false;
+        Map<String, String> bodies = bodies(code);
+        Set<String> found = new TreeSet<>(bodies.keySet());
+        must(found.equals(names()), "the methods are found in the source: " + found);
+        for (Map.Entry<String, String> method : bodies.entrySet()) {
+            must(method.getValue().split("\n").length <= 60, "a method stays short: " + method.getKey());
+        }
+        calls(bodies);
+    }
+
+    /** The names of all methods and constructors of the class and of those inside it. */
+    private static Set<String> names() {
+        Set<String> names = new TreeSet<>(Set.of(HatGoesRound.class.getSimpleName()));
+        for (Method m : HatGoesRound.class.getDeclaredMethods()) {
+            names.add(m.getName());
+        }
+        for (Class<?> c : HatGoesRound.class.getDeclaredClasses()) {
+            names.add(c.getSimpleName());
+            for (Method m : c.getDeclaredMethods()) {
+                names.add(m.getName());
             }
         }
+        return names;
+    }
+
+    /** Each method and constructor by its name (those of one name together), from its first line to its last. */
+    private static Map<String, String> bodies(String code) {
+        Map<String, String> bodies = new HashMap<>();
+        Matcher m = Pattern.compile("(?ms)^( {4}| {8})([a-z][^\n;=]* |)(\\w+)\\([^\n;]*\\) \\{\n.*?^\\1\\}\n").matcher(code);
+        while (m.find()) {
+            bodies.merge(m.group(3), m.group(), String::concat);
+        }
+        return bodies;
+    }
+
+    private static void calls(Map<String, String> bodies) {
+        Map<String, Set<String>> calls = new HashMap<>();
+        for (Map.Entry<String, String> method : bodies.entrySet()) {
+            Set<String> called = new HashSet<>();
+            Matcher m = Pattern.compile("\\b(\\w+)\\(").matcher(method.getValue().replaceAll("(?m)^( {4}| {8})\\w.*\\{$", ""));
+            while (m.find()) {
+                if (bodies.containsKey(m.group(1))) {
+                    called.add(m.group(1));
+                }
+            }
+            if (called.remove(method.getKey())) {
+                must(method.getValue().trim().startsWith("private static "), "what calls itself is private and static: " + method.getKey());
+            }
+            calls.put(method.getKey(), called);
+        }
+        for (String method : bodies.keySet()) {
+            must(depth(method, calls, 1) <= MOST_DEEP, "calls go eight deep at most: from " + method);
+        }
+    }
+
+    /** How many calls stand open at most, from the method that is called with so many open, it too. */
+    private static int depth(String method, Map<String, Set<String>> calls, int open) {
+        int most = open;
+        for (String called : calls.get(method)) {
+            if (open <= MOST_DEEP) {
+                most = Math.max(most, depth(called, calls, open + 1));
+            }
+        }
+        return most;
     }
 
     public static void main(String[] args) throws java.io.IOException {
